@@ -334,28 +334,31 @@ public final class DryDoors {
 
     // ---- water
 
+    private Land asItFlows() {
+        land.findSurfaces();
+        land.findFlows();
+        return land;
+    }
+
     public int drive(int door) {
         if (!isDoor(door)) {
             return none(NO_SUCH);
         }
-        land.findFlows();
-        return fine(land.drives[door]);
+        return fine(asItFlows().drives[door]);
     }
 
     public int flow(int door) {
         if (!isDoor(door)) {
             return none(NO_SUCH);
         }
-        land.findFlows();
-        return fine(land.flows[door]);
+        return fine(asItFlows().flows[door]);
     }
 
     public int flowOpen(int door) {
         if (!isDoor(door)) {
             return none(NO_SUCH);
         }
-        land.findFlows();
-        return fine(land.openFlows[door]);
+        return fine(asItFlows().openFlows[door]);
     }
 
     public int deepest() {
@@ -371,12 +374,12 @@ public final class DryDoors {
     }
 
     public int busiest() {
-        land.findFlows();
+        int[] flows = asItFlows().flows;
         int busiest = NONE;
         int flow = 0;
         for (int d = 0; d < land.doors.count; d++) {
-            if (Math.abs(land.flows[d]) > flow) {
-                flow = Math.abs(land.flows[d]);
+            if (Math.abs(flows[d]) > flow) {
+                flow = Math.abs(flows[d]);
                 busiest = d;
             }
         }
@@ -1363,8 +1366,8 @@ public final class DryDoors {
             surface[SEA] = tide[hour % DAY];
         }
 
+        /** By the surfaces found latest. */
         void findFlows() {
-            findSurfaces();
             int open = openNow();
             for (int d = 0; d < doors.count; d++) {
                 int one = surfaceOf(doors.first[d]);
@@ -1407,6 +1410,7 @@ public final class DryDoors {
         }
 
         void goOneHour() {
+            findSurfaces();
             findFlows();
             letThrough();
             if ((pumpHours >> hourOfDay() & 1) == 1) {
@@ -1495,8 +1499,9 @@ public final class DryDoors {
     /** A TEXT as TOKENS, of which one is looked at, and the first FAULT along it. */
     private static final class Text {
         /** Those that are no NAMES, in the order of the numbers below. */
-        static final String WORDS =
-                "room floor area bears water door from to sill wide leaks tide pump rota errand by sea hour open shut bail any when wet depth loop end stop ";
+        static final String LAND_WORDS =
+                "room floor area bears water door from to sill wide leaks tide pump rota errand by sea ";
+        static final String NIGHTS_WORDS = "hour open shut bail any when wet depth loop end stop ";
         static final int ROOM = 0;
         static final int FLOOR = 1;
         static final int AREA = 2;
@@ -1571,10 +1576,14 @@ public final class DryDoors {
             places = new int[mostTokens];
             codes = new long[mostTokens];
             words = new int[mostTokens];
-            int which = 0;
+            reserve(NIGHTS_WORDS, reserve(LAND_WORDS, 0));
+        }
+
+        private int reserve(String words, int from) {
+            int which = from;
             long code = 0;
-            for (int i = 0; i < WORDS.length() && which < ALL_WORDS; i++) {
-                char c = WORDS.charAt(i);
+            for (int i = 0; i < words.length() && which < ALL_WORDS; i++) {
+                char c = words.charAt(i);
                 if (c == ' ') {
                     reserved[which] = code;
                     which++;
@@ -1583,6 +1592,7 @@ public final class DryDoors {
                     code = withLetter(code, c);
                 }
             }
+            return which;
         }
 
         private static long withLetter(long code, int letter) {
@@ -1666,7 +1676,7 @@ public final class DryDoors {
         }
 
         void advance() {
-            at = Math.max(0, Math.min(at + 1, tokens - 1));
+            at = at + 1 < tokens ? at + 1 : at;
             kind = kinds[at];
             place = places[at];
             word = words[at];

@@ -1,0 +1,72 @@
+/** What all tests have in common: answers that are due, and texts that come onto the tape. */
+final class Kit {
+    private static int wrong = 0;
+    private static int asked = 0;
+
+    private Kit() {
+    }
+
+    static void due(String call, long got, long want) {
+        asked++;
+        if (got != want) {
+            wrong++;
+            System.out.println(call + " answered " + got + ", due is " + want);
+        }
+    }
+
+    static void due(String call, boolean got, boolean want) {
+        due(call, got ? 1 : 0, want ? 1 : 0);
+    }
+
+    /** A call that is refused: NONE, and this STATUS. */
+    static void refused(DryDoors x, String call, long got, int status) {
+        due(call, got, DryDoors.NONE);
+        due(call + ": status", x.status(), status);
+    }
+
+    static void refused(DryDoors x, String call, boolean got, int status) {
+        due(call, got, false);
+        due(call + ": status", x.status(), status);
+    }
+
+    /** An answer that may be -1 with STATUS 0. */
+    static void fine(DryDoors x, String call, long got, long want) {
+        due(call, got, want);
+        due(call + ": status", x.status(), 0);
+    }
+
+    /** Brings a text onto the tape, 20 bytes at a time, and tells how long it is. */
+    static int onTape(DryDoors x, String text) {
+        for (int i = 0; i < text.length(); i += 20) {
+            int[] fours = new int[5];
+            for (int j = 0; j < 20; j++) {
+                int c = i + j < text.length() ? text.charAt(i + j) & 255 : 0;
+                fours[j / 4] = fours[j / 4] << 8 | c;
+            }
+            x.feed(fours[0], fours[1], fours[2], fours[3], fours[4]);
+        }
+        return text.length();
+    }
+
+    static int land(DryDoors x, String text) {
+        return x.land(onTape(x, text));
+    }
+
+    static int nights(DryDoors x, String text) {
+        return x.nights(onTape(x, text));
+    }
+
+    static DryDoors of(String land) {
+        DryDoors x = new DryDoors();
+        land(x, land);
+        due("land of \"" + land + "\"", x.status(), 0);
+        return x;
+    }
+
+    static void end(String what) {
+        System.out.println(what + ": " + asked + " answers, " + wrong + " not as due");
+        if (wrong != 0) {
+            System.exit(1);
+        }
+    }
+}
