@@ -672,7 +672,12 @@ public final class Promises {
         due("40 in 99", late.drownsIn(0), 99);
         due("47 in 99", late.firstDrowned(), 0);
         due("39 in 9", late.wetIn(0), 9);
-        late.bail(0, 1);
+        DryDoors later = Kit.of("room a floor 0 area 10 bears 9;door p from sea to a sill 0 leaks 1;");
+        for (int h = 0; h < 12; h++) {
+            later.moon(h, 99);
+        }
+        Kit.refused(later, "40 in 100", later.drownsIn(0), 6);
+        Kit.refused(later, "47 in 100", later.firstDrowned(), 6);
         late.raise(0, 99);
         Kit.refused(late, "40 never", late.drownsIn(0), 6);
     }
@@ -813,6 +818,10 @@ public final class Promises {
         DryDoors y = held("room a floor 0 bears 3;door p from sea to a sill 5;", 0);
         due("55 at the sill", y.borne(), 5);
         due("55 the tide stays", y.tide(0), 10);
+        DryDoors none = held("room a floor 0 bears 1;door p from sea to a sill 0 wide 9;", 0);
+        Kit.fine(none, "55 height 0", none.borne(), 0);
+        Kit.fine(none, "54 height 0", none.siege(0), 0);
+        due("54 height 1", none.siege(1), 1);
         y.wall(0, true);
         due("55 all", y.borne(), 99);
     }
@@ -870,12 +879,19 @@ public final class Promises {
         deep.wall(0, true);
         due("58 none more", deep.plan(0), 0);
         DryDoors four = Kit.of("room a floor 0 area 20 bears 99;door p from sea to a sill 5;errand e by p from 0 to 3;"
-                + "errand f by p from 2 to 5;errand g by p from 0 to 11;errand h by p from 3 to 3;");
-        // all at once in HOUR 3: 5 in all
+                + "errand f by p from 2 to 5;errand g by p from 0 to 11;errand h by p from 2 to 2;");
+        // all at once in HOUR 2: 5 in all
         due("58 at once", four.plan(1), 5);
         for (int e = 0; e < 4; e++) {
-            due("59 errand " + e, four.planned(e), 3);
+            due("59 errand " + e, four.planned(e), 2);
         }
+        // both at once bring 20; one behind the other 10, in whatever order
+        DryDoors two = Kit.of("room a floor 0;door p from sea to a sill 5 wide 2;door q from sea to a sill 5 wide 2;"
+                + "errand e by p from 6 to 7;errand f by q from 6 to 7;");
+        due("58 apart", two.plan(1), 10);
+        due("59 the first by errand 0", two.planned(0) * 10 + two.planned(1), 67);
+        two.hour(7);
+        due("59 by number still", two.planned(0) * 10 + two.planned(1), 67);
     }
 
     private static void saving() {
@@ -1034,11 +1050,11 @@ public final class Promises {
         for (int i = 0; i < 101; i++) {
             last.hour(99 - (i == 100 ? 3 : 0));
         }
-        Kit.nights(last, "hour 5;hour 4;hour 1;");
+        Kit.nights(last, "hour 5;hour 4;hour 3;hour 1;");
         due("68 at hour 9,996 of 9,999", last.told(3), 9996);
-        due("68 live", last.live(0), 3);
-        lived(last, "68 missed as a whole", 2, 1, 0, 0, 0);
-        due("68 hour", last.told(3), 9997);
+        due("68 live", last.live(0), 4);
+        lived(last, "68 missed as a whole", 3, 3, 0, 0, 0);
+        due("68 hour", last.told(3), 9999);
     }
 
     private static void livingByTests() {
