@@ -25,6 +25,7 @@ public final class DryDoors {
     /** HOURS of the day, which are the next 12 HOURS of all that is foretold, too. */
     private static final int DAY = 12;
     private static final int ALL_HOURS = (1 << DAY) - 1;
+    private static final int TIDE_UNTOLD = 10;
     private static final int LAST_HOUR = 9999;
     private static final int FORESEEN = 99;
     private static final int HIGHEST = 99;
@@ -1294,16 +1295,14 @@ public final class DryDoors {
         final int[] passed = new int[MOST_DOORS];
 
         Land() {
-            for (int h = 0; h < DAY; h++) {
-                tide[h] = 10;
-            }
+            setAllTides(TIDE_UNTOLD);
         }
 
         void clear() {
             rooms.clear();
             doors.clear();
             errands = 0;
-            setAllTides(10);
+            setAllTides(TIDE_UNTOLD);
             hour = 0;
             pumpHours = ALL_HOURS;
         }
@@ -1618,11 +1617,12 @@ public final class DryDoors {
         /** Behind what begins no TOKEN nothing is looked at. */
         void begin(byte[] bytes, int length) {
             tokens = 0;
+            int end = Math.min(length, bytes.length);
             int next = 0;
-            for (int i = 0; i <= length && next < length; i++) {
-                next = isBlank(bytes[next]) ? next + 1 : behindToken(bytes, next, length);
+            for (int i = 0; i <= end && next < end; i++) {
+                next = isBlank(bytes[next]) ? next + 1 : behindToken(bytes, next, end);
             }
-            add(AT_END, length, 0);
+            add(AT_END, end, 0);
             fault = 0;
             faultPlace = NONE;
             at = NONE;

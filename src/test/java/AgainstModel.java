@@ -1685,7 +1685,7 @@ public final class AgainstModel {
 
     public static void main(String[] args) {
         int from = args.length > 2 ? Integer.parseInt(args[1]) : 0;
-        int to = args.length > 2 ? Integer.parseInt(args[2]) : 400;
+        int to = args.length > 2 ? Integer.parseInt(args[2]) : 1000;
         for (int seed = from; seed < to; seed++) {
             run(seed);
         }

@@ -188,6 +188,9 @@ public final class Promises {
         landFault("room a floor 0 bears 1 area 1;", 2, 23);
         landFault("room a floor 0 area 1 area 1;", 2, 22);
         landFault("rooms a floor 0;", 2, 0);
+        landFault("room floor 0;", 2, 5);
+        landFault(room + "door from sea to a sill 0;", 2, 20);
+        landFault(BASIN + "errand by p from 0 to 0;", 2, 50);
         landFault(room + "door p from floor", 2, 27);
         landFault(room + "door p from abcdefghi", 2, 27);
         landFault(room + "pump sea 1;", 2, 20);
