@@ -2,20 +2,36 @@
 final class Kit {
     private static int wrong = 0;
     private static int asked = 0;
+    private static int sentences = 0;
+    private static String sentence = "";
 
     private Kit() {
+    }
+
+    /** From here on answers are held against this sentence of the document, which starts with where it stands. */
+    static void sentence(String where) {
+        sentences++;
+        sentence = where + " -- ";
     }
 
     static void due(String call, long got, long want) {
         asked++;
         if (got != want) {
             wrong++;
-            System.out.println(call + " answered " + got + ", due is " + want);
+            System.out.println(sentence + call + " answered " + got + ", due is " + want);
         }
     }
 
     static void due(String call, boolean got, boolean want) {
         due(call, got ? 1 : 0, want ? 1 : 0);
+    }
+
+    static void due(String call, String got, String want) {
+        asked++;
+        if (!got.equals(want)) {
+            wrong++;
+            System.out.println(sentence + call + " answered " + got + ", due is " + want);
+        }
     }
 
     /** A call that is refused: NONE, and this STATUS. */
@@ -32,6 +48,11 @@ final class Kit {
     /** An answer that may be -1 with STATUS 0. */
     static void fine(DryDoors x, String call, long got, long want) {
         due(call, got, want);
+        due(call + ": status", x.status(), 0);
+    }
+
+    static void fine(DryDoors x, String call, boolean got) {
+        due(call, got, true);
         due(call + ": status", x.status(), 0);
     }
 
@@ -63,8 +84,52 @@ final class Kit {
         return x;
     }
 
+    /** A LAND some DOORS of which are held OPEN by hand from the beginning. */
+    static DryDoors held(String land, int... doors) {
+        DryDoors x = of(land);
+        for (int d : doors) {
+            due("hold " + d, x.hold(d, true), true);
+        }
+        return x;
+    }
+
+    /** A LAND with NIGHTS, which have so many STEPS. */
+    static DryDoors withNights(String land, String nights, int steps) {
+        DryDoors x = of(land);
+        due("nights of \"" + nights + "\"", nights(x, nights), steps);
+        return x;
+    }
+
+    static void allTides(DryDoors x, int height) {
+        for (int h = 0; h < 12; h++) {
+            x.moon(h, height);
+        }
+    }
+
+    /** HOURS go by until it is that one. */
+    static void goTo(DryDoors x, int hour) {
+        for (int left = hour - x.told(3); left > 0; left = hour - x.told(3)) {
+            x.hour(Math.min(99, left));
+        }
+        due("goTo: the HOUR", x.told(3), hour);
+    }
+
+    /** PARTS of the same form, with the letters from 'a' on in place of each #. */
+    static String parts(int many, String form) {
+        return parts(many, form, 'a');
+    }
+
+    static String parts(int many, String form, char first) {
+        StringBuilder text = new StringBuilder();
+        for (int i = 0; i < many; i++) {
+            text.append(form.replace('#', (char) (first + i)));
+        }
+        return text.toString();
+    }
+
     static void end(String what) {
-        System.out.println(what + ": " + asked + " answers, " + wrong + " not as due");
+        System.out.println(what + ": " + (sentences > 0 ? sentences + " sentences, " : "") + asked + " answers, " + wrong
+                + " not as due");
         if (wrong != 0) {
             System.exit(1);
         }
