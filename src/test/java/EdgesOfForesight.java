@@ -79,10 +79,7 @@ public final class EdgesOfForesight {
         x.bailFor(0, 24);
         x.siege(99);
         x.borne();
-        int[] told = {1, 1, 0, 0, 0, 0, 0, 1, 1, 0};
-        for (int what = 0; what < 10; what++) {
-            Kit.fine(x, "told " + what, x.told(what), told[what]);
-        }
+        Kit.told(x, 1, 1, 0, 0, 0, 0, 0, 1, 1, 0);
         Kit.fine(x, "MARK", x.room(0, 7), 0);
         Kit.fine(x, "PUMP", x.room(0, 3), 0);
         Kit.fine(x, "SILL", x.door(0, 2), 5);
@@ -196,6 +193,13 @@ public final class EdgesOfForesight {
         for (int d : doors) {
             Kit.refused(x, "DOOR " + d, x.fails(d), 1);
         }
+        DryDoors both = Kit.held("room a floor 0 bears 1;room b floor 0 bears 1;door p from sea to a sill 5;"
+                + "door q from sea to b sill 5;", 0);
+        Kit.fine(both, "the other is held all the same", both.fails(1), 3);
+        both.moon(0, 0);
+        both.rota(11, 1, true);
+        both.hold(0, false);
+        Kit.fine(both, "the ROTA goes on as well", both.fails(0), 3);
     }
 
     private static void worst() {
@@ -220,6 +224,18 @@ public final class EdgesOfForesight {
         Kit.fine(no, "nothing by either", no.worst(), 0);
         DryDoors less = Kit.of("room a floor 20 water 5;door p from a to sea sill 20;door q from a to sea sill 24;");
         Kit.fine(less, "the most is less than now", less.worst(), 1);
+        // p 3 in six HOURS and 0 in six, q 2 and 1: 18 each; in the 13th, 0 of the day, q would bring 1 more
+        DryDoors twelveAlone = Kit.of(land + "door p from sea to a sill 9 wide 3;door q from sea to b sill 8;");
+        for (int h = 0; h < 12; h += 2) {
+            twelveAlone.moon(h, 9);
+        }
+        Kit.fine(twelveAlone, "18 each in just 12 HOURS", twelveAlone.worst(), 0);
+        // a holds 20 whoever brings them: with p held q brings 1 more at most, r 12 into b
+        DryDoors held = Kit.held("room a floor 9 area 20;room b floor 0 area 20;door p from sea to a sill 0 wide 2;"
+                + "door q from sea to a sill 0 wide 9;door r from sea to b sill 9;", 0);
+        Kit.fine(held, "the others as they are", held.worst(), 2);
+        held.hold(0, false);
+        Kit.fine(held, "q alone brings 27", held.worst(), 1);
         DryDoors none = Kit.of(land);
         Kit.refused(none, "no DOORS", none.worst(), 6);
     }
@@ -255,6 +271,11 @@ public final class EdgesOfForesight {
         Kit.fine(x, "11 are 5 deep", x.sillFor(0), 2);
         x.raise(0, 2);
         Kit.fine(x, "by 0", x.sillFor(0), 0);
+        DryDoors held = Kit.held("room a floor 0 bears 1;room b floor 0 bears 1;door p from sea to a sill 5;"
+                + "door q from sea to b sill 5;", 1);
+        Kit.refused(held, "b would be by q, which is held", held.sillFor(0), 6);
+        held.hold(1, false);
+        Kit.fine(held, "by none of both", held.sillFor(0), 5);
     }
 
     // ---- promises 45 to 47
@@ -362,6 +383,21 @@ public final class EdgesOfForesight {
         Kit.fine(two, "the one held by hand", two.bestHour(1), 4);
     }
 
+    private static void othersAsTheyAre() {
+        Kit.sentence("Promise 48: (.. else as it is): hands and the ROTA at the other DOORS");
+        // by p alone come 2, by HOUR 5 1; with q held it is 10 at the end in any case; with q on the ROTA 10 by HOURS 0
+        // and 2 to 11, 12 by HOUR 1, and in HOUR 5 1 goes back to the SEA
+        DryDoors x = Kit.of("room a floor 0;door p from sea to a sill 8;door q from sea to a sill 5;tide 5 9;");
+        Kit.fine(x, "q shut", x.bestHour(0), 5);
+        x.hold(1, true);
+        Kit.fine(x, "q held: 10 by all", x.bestHour(0), 0);
+        x.hold(1, false);
+        for (int h = 0; h < 2; h++) {
+            x.rota(h, 1, true);
+        }
+        Kit.fine(x, "q on the ROTA in HOURS 0 and 1", x.bestHour(0), 5);
+    }
+
     private static void heldNow() {
         Kit.sentence("Promise 48: (Held by hand now: no more but for that HOUR.)");
         DryDoors x = Kit.held("room a floor 0 area 20;door p from sea to a sill 5;tide 6 7;", 0);
@@ -420,6 +456,10 @@ public final class EdgesOfForesight {
         Kit.refused(none, "no ROOMS", none.pumpAt(99), 6);
         DryDoors dry = Kit.of("room a floor 0;room b floor 0;");
         Kit.fine(dry, "all alike", dry.pumpAt(99), 0);
+        DryDoors twelve = Kit.of("room a floor 0 water 12;room b floor 0 water 50;");
+        Kit.fine(twelve, "12 in 12 HOURS by either, 13 in 13 by b alone", twelve.pumpAt(1), 0);
+        twelve.bail(0, 1);
+        Kit.fine(twelve, "11 by a, 12 in 12 HOURS by b", twelve.pumpAt(1), 1);
     }
 
     private static void ninetyNineInAll() {
@@ -522,6 +562,17 @@ public final class EdgesOfForesight {
         for (int r : rooms) {
             Kit.refused(x, "ROOM " + r, x.bailFor(r, 1), 1);
         }
+        DryDoors tides = Kit.held("room a floor 0 area 2 water 9;door p from sea to a sill 9;pump a 3;", 0);
+        Kit.allTides(tides, 9);
+        tides.moon(1, 11);
+        // 2 come in HOUR 1 alone
+        tides.hour(1);
+        Kit.fine(tides, "6 and 2 less 3: 5", tides.bailFor(0, 1), 4);
+        Kit.fine(tides, "6 and 2 less 6: 2", tides.bailFor(0, 2), 1);
+        tides.moon(1, 9);
+        tides.moon(2, 11);
+        Kit.fine(tides, "6 less 3: 3", tides.bailFor(0, 1), 2);
+        Kit.fine(tides, "6 less 3 and 2 less 3: 2", tides.bailFor(0, 2), 1);
         DryDoors not = Kit.held("room a floor 0 water 3;room b floor 0;door p from sea to a sill 5;", 0);
         Kit.refused(not, "not by all", not.bailFor(0, 1), 6);
         Kit.fine(not, "of the other ROOM", not.bailFor(1, 1), 0);
@@ -547,6 +598,9 @@ public final class EdgesOfForesight {
         }
         DryDoors more = Kit.held("room a floor 0 area 2 bears 6;door p from sea to a sill 9;", 0);
         Kit.fine(more, "12 by 2 are borne", more.siege(10), 0);
+        DryDoors twelve = Kit.held("room a floor 0 bears 12;room b floor 0 bears 11;door p from sea to a sill 49;"
+                + "door q from sea to b sill 49;", 0, 1);
+        Kit.fine(twelve, "12 in 12 HOURS are above 11, 13 in 13 were above 12", twelve.siege(50), 2);
         DryDoors none = new DryDoors();
         Kit.fine(none, "no ROOMS", none.siege(99), 0);
     }
@@ -600,6 +654,7 @@ public final class EdgesOfForesight {
         firstDrowned();
         bestHour();
         thatHourAlone();
+        othersAsTheyAre();
         heldNow();
         pumpFor();
         pumpAt();

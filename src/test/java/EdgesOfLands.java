@@ -3,9 +3,6 @@ import java.util.List;
 
 /** The sentences that name a boundary case: a LAND as a TEXT, its FAULTS, the tape (terms; promises 9, 10, 12). */
 public final class EdgesOfLands {
-    private static final String[] NO_NAMES = {"room", "floor", "area", "bears", "water", "door", "from", "to", "sill",
-        "wide", "leaks", "tide", "pump", "rota", "errand", "by", "sea", "hour", "open", "shut", "bail", "any", "when",
-        "wet", "depth", "loop", "end", "stop"};
     private static final String ROOM = "room a floor 0;";
     private static final String DOOR = ROOM + "door p from sea to a sill 5;";
 
@@ -176,6 +173,22 @@ public final class EdgesOfLands {
         faultBehind("room abcdefgh floor 0;room ", "abcdefgh floor 0;", 3);
     }
 
+    private static void unlikeNames() {
+        Kit.sentence("Terms: NAME: WORDS that are unlike in one letter, or in how many, are unlike NAMES");
+        String[] names = {"a", "b", "p", "q", "z", "aa", "ab", "ap", "az", "ba", "pa", "za", "zz", "aaa", "aaaaaaaa", "aaaaaaab",
+            "baaaaaaa", "aaaaaaa", "zzzzzzz", "zzzzzzzz", "zzzzzzzy", "yzzzzzzz", "azzzzzzz", "paaaaaaa", "qaaaaaaa"};
+        for (String one : names) {
+            for (String other : names) {
+                String ahead = "room " + one + " floor 0;room ";
+                if (one.equals(other)) {
+                    faultBehind(ahead, other + " floor 0;", 3);
+                } else {
+                    taken(ahead + other + " floor 0;", 0);
+                }
+            }
+        }
+    }
+
     private static void longWordsForNames() {
         Kit.sentence("Terms, FAULT 2: a WORD of 9 letters and more where a NAME must stand");
         String[] ahead = {"room ", ROOM + "door ", ROOM + "door q from ", ROOM + "door q from sea to ", ROOM + "pump ",
@@ -189,8 +202,8 @@ public final class EdgesOfLands {
 
     private static void noNames() {
         Kit.sentence("Terms: NAME: .. that is none of room, floor .. stop");
-        Kit.due("they are 28", NO_NAMES.length, 28);
-        for (String word : NO_NAMES) {
+        Kit.due("they are 28", Kit.NO_NAMES.length, 28);
+        for (String word : Kit.NO_NAMES) {
             fault("room " + word + " floor 0;", 2, 5);
             faultBehind(ROOM + "door ", word + " from a to sea sill 0;", 2);
             faultBehind(ROOM + "pump ", word + " 1;", 2);
@@ -335,6 +348,9 @@ public final class EdgesOfLands {
         DryDoors x = taken(DOOR + "rota 0 p;rota 11 p;rota 11 p;rota 0 p;", 1);
         Kit.due("the HOURS", x.door(0, 5), 1 | 1 << 11);
         Kit.due("OPEN in HOUR 0", x.told(7), 1);
+        DryDoors two = taken(DOOR + "door q from sea to a sill 5;door r from sea to a sill 5;rota 0 p;rota 0 r;rota 1 q;", 3);
+        Kit.due("two DOORS in one HOUR", two.told(7), 5);
+        Kit.due("each DOOR has its HOURS", two.door(0, 5) * 100 + two.door(1, 5) * 10 + two.door(2, 5), 121);
         faultBehind(DOOR + "rota ", "12 p;", 4);
         faultBehind(DOOR + "rota ", "100 p;", 4);
     }
@@ -628,10 +644,7 @@ public final class EdgesOfLands {
         x.wall(0, true);
         Kit.due("DROWNED", x.told(6), 1);
         Kit.fine(x, "the same anew", Kit.land(x, "room a floor 0;door p from sea to a sill 5;"), 1);
-        int[] told = {1, 1, 0, 0, 0, 0, 0, 0, 0, 0};
-        for (int what = 0; what < 10; what++) {
-            Kit.fine(x, "told " + what, x.told(what), told[what]);
-        }
+        Kit.told(x, 1, 1, 0, 0, 0, 0, 0, 0, 0, 0);
         Kit.due("BEARS", x.room(0, 2), 10);
         Kit.due("PUMP", x.room(0, 3), 0);
         Kit.due("MARK on the WALL", x.room(0, 7), 0);
@@ -639,6 +652,22 @@ public final class EdgesOfLands {
         Kit.due("TIDE", x.tide(3), 10);
         Kit.refused(x, "no NIGHTS", x.live(0), 6);
         Kit.refused(x, "no NIGHTS", x.mean(0, 1), 6);
+    }
+
+    private static void nothingOfTheTextsAhead() {
+        Kit.sentence("Terms: a LAND is what its own TEXT tells, whatever was told in TEXTS ahead, with a FAULT or without");
+        String all = "room a floor 9;door p from sea to a sill 5;tide 0 3;tide 11 4;pump a 9;rota 0 p;rota 11 p;"
+                + "errand e by p from 1 to 2;";
+        for (String ahead : new String[] {all, all + "!"}) {
+            DryDoors x = new DryDoors();
+            Kit.land(x, ahead);
+            Kit.fine(x, "by the same NAMES", Kit.land(x, "room e floor 0;room p floor 0;door a from sea to p sill 0;"), 1);
+            Kit.told(x, 2, 1, 0, 0, 0, 0, 0, 0, 0, 0);
+            Kit.due("ROTA", x.door(0, 5), 0);
+            Kit.due("TIDES", x.tide(0) + x.tide(11), 20);
+            Kit.due("PUMPS", x.room(0, 3) + x.room(1, 3), 0);
+            Kit.refused(x, "ERRAND", x.errand(0, 0), 1);
+        }
     }
 
     private static void notDrownedAtFirst() {
@@ -705,6 +734,7 @@ public final class EdgesOfLands {
         mostBytes();
         partsPerhaps();
         lettersOfNames();
+        unlikeNames();
         longWordsForNames();
         noNames();
         oneThingAlone();
@@ -738,6 +768,7 @@ public final class EdgesOfLands {
         howManyDoors();
         oldOneStays();
         inPlace();
+        nothingOfTheTextsAhead();
         notDrownedAtFirst();
         faultAheadOfAny();
         faultOfTheLatest();

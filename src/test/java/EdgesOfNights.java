@@ -318,6 +318,21 @@ public final class EdgesOfNights {
         dueLived(x, "none more", 0, 14, 0, 0, 0);
     }
 
+    private static void ofTheLatestAlone() {
+        Kit.sentence("Promise 69: of live() latest: not of those ahead of it");
+        DryDoors x = Kit.withNights("room a floor 0 bears 1 water 9;room b floor 0 area 20 bears 99 water 999;",
+                "hour 3;bail a 10;loop 99;bail b 1;bail b 1;bail b 1;end;", 6);
+        x.live(0);
+        dueLived(x, "the first", 1, 3, 297, 1, 0);
+        Kit.nights(x, "shut p;");
+        Kit.nights(x, "loop 99;bail b 1;bail b 1;bail b 1;bail b 1;end;");
+        x.live(0);
+        dueLived(x, "the second", 0, 0, 299, 0, 1);
+        Kit.nights(x, "hour 1;");
+        x.live(0);
+        dueLived(x, "the third", 0, 1, 0, 0, 0);
+    }
+
     // ---- promise 70
 
     private static void dueMean(DryDoors x, int seed, int many, int top, int bottom) {
@@ -368,10 +383,7 @@ public final class EdgesOfNights {
         Kit.sentence("Promise 70: all stays as it is; 4.: (mean() alone takes it back)");
         DryDoors x = Kit.withNights("room a floor 0 bears 1 water 50;door p from sea to a sill 5;", "any;hour 12;bail a 1;", 3);
         Kit.fine(x, "mean", x.mean(7, 20));
-        int[] told = {1, 1, 0, 0, 50, 1, 0, 0, 0, 0};
-        for (int what = 0; what < 10; what++) {
-            Kit.fine(x, "told " + what, x.told(what), told[what]);
-        }
+        Kit.told(x, 1, 1, 0, 0, 50, 1, 0, 0, 0, 0);
         Kit.fine(x, "MARK", x.room(0, 7), 0);
         Kit.fine(x, "live", x.live(7), 3);
         Kit.fine(x, "what live() does stays", x.told(3), 12);
@@ -452,10 +464,7 @@ public final class EdgesOfNights {
         Kit.nights(x, "hour 3;");
         x.live(0);
         Kit.fine(x, "undo", x.undo(), 0);
-        int[] told = {2, 1, 1, 1, 9, 1, 1, 0, 1, 1};
-        for (int what = 0; what < 10; what++) {
-            Kit.fine(x, "told " + what, x.told(what), told[what]);
-        }
+        Kit.told(x, 2, 1, 1, 1, 9, 1, 1, 0, 1, 1);
         int[] room = {4, 2, 3, 0, 9, 4, 8, 4};
         for (int what = 0; what < 8; what++) {
             Kit.fine(x, "room 0, " + what, x.room(0, what), room[what]);
@@ -492,10 +501,7 @@ public final class EdgesOfNights {
         x.hour(5);
         Kit.nights(x, "any;");
         Kit.fine(x, "undo", x.undo(), 0);
-        int[] told = {1, 1, 0, 1, 9, 1, 1, 0, 0, 0};
-        for (int what = 0; what < 10; what++) {
-            Kit.fine(x, "told " + what, x.told(what), told[what]);
-        }
+        Kit.told(x, 1, 1, 0, 1, 9, 1, 1, 0, 0, 0);
         Kit.fine(x, "MARK on the WALL", x.room(0, 7), 9);
         Kit.fine(x, "ROTA", x.door(0, 5), 0);
         Kit.fine(x, "TIDE", x.tide(3), 4);
@@ -576,6 +582,7 @@ public final class EdgesOfNights {
         whatWasLived();
         whateverCame();
         drownedInIt();
+        ofTheLatestAlone();
         seedsOfMean();
         meanOfTwenty();
         allStays();

@@ -2,9 +2,6 @@
 public final class EdgesOfNightsTexts {
     private static final String LAND = "room a floor 0 water 50;room b floor 0;door p from sea to a sill 5;"
             + "door q from a to b sill 3;errand e by p from 0 to 0;";
-    private static final String[] NO_NAMES = {"room", "floor", "area", "bears", "water", "door", "from", "to", "sill",
-        "wide", "leaks", "tide", "pump", "rota", "errand", "by", "sea", "hour", "open", "shut", "bail", "any", "when",
-        "wet", "depth", "loop", "end", "stop"};
 
     /** NIGHTS are not taken: the FAULT and its place; those that were there stay. */
     private static void fault(String text, int kind, int place) {
@@ -176,7 +173,7 @@ public final class EdgesOfNightsTexts {
         Kit.sentence("4., FAULT 2 as above: words that are no NAMES, or of 9 letters and more, where a NAME must stand");
         String[] ahead = {"open ", "shut ", "bail ", "when wet ", "when open ", "when depth "};
         for (String text : ahead) {
-            for (String word : NO_NAMES) {
+            for (String word : Kit.NO_NAMES) {
                 faultBehind(text, word + " ", 2);
             }
             faultBehind(text, "abcdefghi", 2);
@@ -200,7 +197,7 @@ public final class EdgesOfNightsTexts {
 
     private static void tests() {
         Kit.sentence("4.: TEST: wet NAME, or open NAME, or depth NAME COMPARES NUMBER");
-        for (String word : NO_NAMES) {
+        for (String word : Kit.NO_NAMES) {
             if (!word.equals("wet") && !word.equals("open") && !word.equals("depth")) {
                 faultBehind("when ", word + " a;end;", 2);
             }
@@ -295,6 +292,27 @@ public final class EdgesOfNightsTexts {
         faultBehind("loop 1;loop 1;loop 1;end;end;loop 1;loop 1;", "loop", 7);
     }
 
+    private static void beginAnew() {
+        Kit.sentence("4.: what a TEXT with a FAULT began does not matter to the next one");
+        DryDoors x = Kit.of(LAND);
+        Kit.refused(x, "three begun", Kit.nights(x, "any;loop 1;loop 1;loop 1;hour 0;"), 9);
+        Kit.fine(x, "three within", Kit.nights(x, "loop 1;loop 1;loop 1;end;end;end;"), 3);
+        Kit.refused(x, "two begun", Kit.nights(x, "any;loop 1;loop 1;"), 9);
+        Kit.refused(x, "an end without a beginning", Kit.nights(x, "any;end;"), 9);
+        Kit.due("its FAULT", x.fault(0) * 10 + x.fault(1), 24);
+        Kit.refused(x, "30 STEPS and one", Kit.nights(x, "any;".repeat(31)), 9);
+        Kit.fine(x, "30 STEPS", Kit.nights(x, "any;".repeat(30)), 30);
+    }
+
+    private static void manyEnds() {
+        Kit.sentence("4.: (.. end is none): 25 ends behind as many STEPS");
+        DryDoors x = taken("loop 1;end;".repeat(24) + "loop 9;bail a 1;end;any;any;", 28);
+        Kit.fine(x, "live", x.live(0), 24 + 1 + 9 + 2);
+        Kit.fine(x, "bailed", x.lived(2), 9);
+        DryDoors y = taken("loop 1;end;".repeat(25) + "any;".repeat(5), 30);
+        Kit.fine(y, "live", y.live(0), 30);
+    }
+
     private static void leastKind() {
         Kit.sentence("4.: FAULTS, of one TOKEN the least kind: 6 ahead of 7");
         faultBehind("loop 1;loop 1;loop 1;" + "any;".repeat(27), "loop 1;end;end;end;end;", 6);
@@ -346,6 +364,8 @@ public final class EdgesOfNightsTexts {
         withoutBeginning();
         thirtySteps();
         threeWithin();
+        beginAnew();
+        manyEnds();
         leastKind();
         firstAlongTheText();
         noFaultAnyMore();

@@ -132,6 +132,10 @@ public final class EdgesOfPlans {
         Kit.fine(y, "DROWNED by any", y.plan(0), 1);
         Kit.fine(y, "3 are left", y.plan(1), 3);
         dueHours(y, "in HOUR 0", 0);
+        DryDoors early = Kit.of("room a floor 0 bears 9;door p from sea to a sill 5 wide 3;pump a 1;tide 0 8;"
+                + "errand e by p from 0 to 11;");
+        Kit.fine(early, "none is DROWNED by the first", early.plan(0), 0);
+        dueHours(early, "in HOUR 0", 0);
     }
 
     private static void drownedNowToo() {
@@ -144,6 +148,11 @@ public final class EdgesOfPlans {
         Kit.fine(x, "now", x.plan(0), 2);
         x.build(0);
         Kit.fine(x, "a no more", x.plan(0), 1);
+        DryDoors all = Kit.of(Kit.parts(7, "room # floor 0 bears 1 water 2;") + "door p from sea to a sill 99;"
+                + "errand x by p from 3 to 5;");
+        Kit.fine(all, "all seven by any plan", all.plan(0), 7);
+        Kit.fine(all, "their WATER", all.plan(1), 14);
+        dueHours(all, "the first", 3);
     }
 
     private static void firstByErrands() {
@@ -160,6 +169,11 @@ public final class EdgesOfPlans {
         DryDoors three = Kit.of("room a floor 0;door p from sea to a sill 99;errand e by p from 3 to 11;"
                 + "errand f by p from 0 to 11;errand g by p from 5 to 6;errand h by p from 11 to 11;");
         dueHours(three, "nothing comes by any: FROM each", 3, 0, 5, 11);
+        DryDoors four = Kit.of("room a floor 0;door p from sea to a sill 99;errand e by p from 7 to 11;"
+                + "errand f by p from 1 to 11;errand g by p from 0 to 11;errand h by p from 3 to 11;");
+        dueHours(four, "nothing comes by any: FROM each of four", 7, 1, 0, 3);
+        four.hour(9);
+        dueHours(four, "by number in HOUR 9, too", 7, 1, 0, 3);
     }
 
     private static void handsCount() {

@@ -134,6 +134,17 @@ public final class EdgesOfTrays {
         Kit.fine(two, "guilt of two", two.guilt(1, 3));
         Kit.due("top of two", two.top(), -1);
         Kit.due("bottom of two", two.bottom(), 2);
+        // half of 2 each
+        DryDoors half = Kit.of("room a floor 50 water 2;door p from a to sea sill 50;door q from a to sea sill 50;");
+        Kit.fine(half, "guilt of two", half.guilt(1, 3));
+        Kit.due("top of half of -2", half.top(), -1);
+        Kit.due("bottom of half of -2", half.bottom(), 1);
+        // in 3 of 6 orders p is ahead of q; r takes nothing
+        DryDoors three = Kit.of("room a floor 50 water 1;door p from a to sea sill 50;door q from a to sea sill 50;"
+                + "door r from a to sea sill 99;");
+        Kit.fine(three, "guilt of three", three.guilt(0, 7));
+        Kit.due("top of -3 by 6", three.top(), -1);
+        Kit.due("bottom of -3 by 6", three.bottom(), 2);
     }
 
     private static void zeroByOne() {

@@ -173,10 +173,7 @@ public final class EdgesOfWater {
         x.hold(1, true);
         x.wall(1, true);
         x.hour(1);
-        int[] told = {4, 3, 4, 1, 14, 1 | 2 | 8, 8, 1 | 4, 1 | 2, 2};
-        for (int what = 0; what < 10; what++) {
-            Kit.fine(x, "told " + what, x.told(what), told[what]);
-        }
+        Kit.told(x, 4, 3, 4, 1, 14, 1 | 2 | 8, 8, 1 | 4, 1 | 2, 2);
         Kit.refused(x, "what -1", x.told(-1), 1);
         Kit.refused(x, "what 10", x.told(10), 1);
         Kit.refused(x, "what least", x.told(LEAST), 1);
@@ -316,6 +313,8 @@ public final class EdgesOfWater {
         Kit.fine(x, "the next of them", x.deepest(), 2);
         x.bail(2, 1);
         Kit.fine(x, "the last one", x.deepest(), 3);
+        DryDoors first = Kit.of("room a floor 0 water 3;room b floor 0 water 3;room c floor 0 water 2;");
+        Kit.fine(first, "the first of all", first.deepest(), 0);
     }
 
     private static void noneIsWet() {
@@ -378,6 +377,9 @@ public final class EdgesOfWater {
         Kit.sentence("Promise 24: the HOUR of the day with the lowest TIDE, of several the first");
         DryDoors x = new DryDoors();
         Kit.fine(x, "all alike", x.low(), 0);
+        DryDoors y = new DryDoors();
+        y.moon(1, 9);
+        Kit.fine(y, "the second", y.low(), 1);
         x.moon(11, 9);
         Kit.fine(x, "the last", x.low(), 11);
         x.moon(4, 9);

@@ -415,6 +415,78 @@ public final class Refusals {
         dueRefused(Refusals::busy, "suspects by too few", 3, x -> x.suspects(1));
     }
 
+    private static DryDoors moreDoors() {
+        DryDoors x = new DryDoors();
+        Kit.land(x, "room a floor 0;" + Kit.parts(5, "door # from sea to a sill 9;", 'p')
+                + Kit.parts(3, "errand # by p from 1 to 2;", 'x'));
+        return x;
+    }
+
+    private static DryDoors moreRooms() {
+        DryDoors x = new DryDoors();
+        Kit.land(x, Kit.parts(5, "room # floor 0;") + "door p from sea to a sill 9;"
+                + Kit.parts(3, "errand # by p from 1 to 2;", 'x'));
+        x.tray(0, 0, 60);
+        return x;
+    }
+
+    private static void noSuchRoomThoughADoor() {
+        Kit.sentence("5.: 1: no such ROOM (there are fewer of them than DOORS and ERRANDS)");
+        for (int i = 1; i < 5; i++) {
+            int r = i;
+            Call[] calls = {x -> x.room(r, 0), x -> x.spare(r), x -> x.linked(r), x -> x.bail(r, 1), x -> x.build(r),
+                x -> x.later(r, 1), x -> x.wetIn(r), x -> x.drownsIn(r), x -> x.greatest(r, 1), x -> x.pumpFor(r),
+                x -> x.bailFor(r, 1), x -> x.keep(r), x -> x.keepSet(r), x -> x.prints(r)};
+            for (int c = 0; c < calls.length; c++) {
+                dueRefused(Refusals::moreDoors, "call " + c + " of ROOM " + r, 1, calls[c]);
+            }
+            dueNot(Refusals::moreDoors, "pump of ROOM " + r, 1, x -> x.pump(r, 1));
+        }
+    }
+
+    private static void noSuchDoorThoughARoom() {
+        Kit.sentence("5.: 1: no such DOOR (there are fewer of them than ROOMS and ERRANDS)");
+        for (int i = 1; i < 5; i++) {
+            int d = i;
+            Call[] calls = {x -> x.door(d, 2), x -> x.drive(d), x -> x.flow(d), x -> x.flowOpen(d), x -> x.high(d),
+                x -> x.raise(d, 1), x -> x.fails(d), x -> x.sillFor(d), x -> x.through(d, 1), x -> x.bestHour(d),
+                x -> x.gain(d), x -> x.damage(1 << d), x -> x.print(d, 0)};
+            for (int c = 0; c < calls.length; c++) {
+                dueRefused(Refusals::moreRooms, "call " + c + " of DOOR " + d, 1, calls[c]);
+            }
+            dueNot(Refusals::moreRooms, "hold " + d, 1, x -> x.hold(d, true));
+            dueNot(Refusals::moreRooms, "wall " + d, 1, x -> x.wall(d, true));
+            dueNot(Refusals::moreRooms, "rota of " + d, 1, x -> x.rota(0, d, true));
+            dueNot(Refusals::moreRooms, "guilt of " + d, 1, x -> x.guilt(d, 1 << d));
+        }
+        dueRefused(Refusals::moreRooms, "errand 3", 1, x -> x.errand(3, 0));
+        dueRefused(Refusals::moreRooms, "planned 3", 1, x -> x.planned(3));
+        dueRefused(Refusals::moreDoors, "errand 3", 1, x -> x.errand(3, 0));
+        dueRefused(Refusals::moreDoors, "planned 3", 1, x -> x.planned(3));
+    }
+
+    /** The last one of each there is, where there are fewer of the others. */
+    private static void lastOnes() {
+        Kit.sentence("5.: STATUS 0 of the last ROOM, DOOR, ERRAND");
+        Call[] ofRooms = {x -> x.room(4, 0), x -> x.spare(4), x -> x.linked(4), x -> x.later(4, 1), x -> x.greatest(4, 1),
+            x -> x.pumpFor(4), x -> x.bailFor(4, 1), x -> x.keep(4), x -> x.keepSet(4), x -> x.prints(4), x -> x.errand(2, 0),
+            x -> x.planned(2)};
+        long[] dueOfRooms = {0, 10, 16, 0, 0, 0, 0, 0, 0, 1, 0, 1};
+        for (int c = 0; c < ofRooms.length; c++) {
+            DryDoors x = moreRooms();
+            Kit.fine(x, "call " + c + " of ROOM 4", ofRooms[c].of(x), dueOfRooms[c]);
+        }
+        Call[] ofDoors = {x -> x.door(4, 2), x -> x.drive(4), x -> x.flow(4), x -> x.flowOpen(4), x -> x.high(4),
+            x -> x.raise(4, 1), x -> x.fails(4), x -> x.sillFor(4), x -> x.through(4, 1), x -> x.bestHour(4), x -> x.gain(4),
+            x -> x.damage(16), x -> x.errand(2, 0), x -> x.planned(2)};
+        // by one DOOR alone 1 comes in an HOUR, 10 in all, which are borne
+        long[] dueOfDoors = {9, 1, 0, 1, 4095, 10, 0, 0, 0, 0, 0, 10, 0, 1};
+        for (int c = 0; c < ofDoors.length; c++) {
+            DryDoors x = moreDoors();
+            Kit.fine(x, "call " + c + " of DOOR 4", ofDoors[c].of(x), dueOfDoors[c]);
+        }
+    }
+
     private static void nightsAndMarks() {
         Kit.sentence("5., promises 68 to 72: a refused call changes nothing");
         for (int i : new int[] {-1, 10000, LEAST, MOST}) {
@@ -470,6 +542,9 @@ public final class Refusals {
         foresight();
         foresightOfNone();
         plans();
+        noSuchRoomThoughADoor();
+        noSuchDoorThoughARoom();
+        lastOnes();
         nightsAndMarks();
         askedOnly();
         Kit.end("refusals");
