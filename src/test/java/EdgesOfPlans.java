@@ -56,6 +56,14 @@ public final class EdgesOfPlans {
         dueKeep(x, "all ten", 0, 1023);
         x.wall(9, true);
         dueKeep(x, "nine", 0, 511);
+        String rooms = "room a floor 0;room b floor 0;";
+        String nine = Kit.parts(9, "door # from a to sea sill 99;", 'c');
+        DryDoors last = Kit.of(rooms + nine + "door z from a to b sill 0;");
+        dueKeep(last, "nine of ten, but the last", 0, 511);
+        dueKeep(last, "the last alone", 1, 512);
+        DryDoors first = Kit.of(rooms + "door z from a to b sill 0;" + nine);
+        dueKeep(first, "nine of ten, but the first", 0, 1022);
+        dueKeep(first, "the first alone", 1, 1);
     }
 
     private static void noSuchRoom() {
